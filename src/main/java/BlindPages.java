@@ -693,7 +693,7 @@ public final class BlindPages {
             }
         }
 
-        /** Stands at the top of the tree over so many nodes from base on. */
+        /** Stands at the top of the tree over so many nodes from the first one on. */
         void open(int firstNode, int entries) {
             base = firstNode;
             from = 0;
@@ -721,13 +721,13 @@ public final class BlindPages {
                 from = lastLeft + 1;
             }
             above++;
-            findFork();
         }
 
         /** Goes down as the word's BITS tell, to the first FORK at or above the limit, or to a TIP. */
         void descend(Word word, int limit) {
             for (int turn = 0; turn < MOST_M && from < to && bit < limit; turn++) {
                 step(word.bitAt(bit) == 0);
+                findFork();
             }
         }
 
@@ -739,6 +739,7 @@ public final class BlindPages {
                 boolean left = ahead <= forksLeft;
                 ahead = left ? ahead - 1 : ahead - 1 - forksLeft;
                 step(left);
+                findFork();
             }
         }
     }

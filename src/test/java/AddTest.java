@@ -116,6 +116,9 @@ public final class AddTest {
         Check.due("eight times a", x.draw(1, 8, 1, 1), 1);
         Check.due("none new", x.draw(1, 8, 1, 1), 0);
         Check.due("a state all the same", x.told(4), 2);
+        BlindPages one = new BlindPages();
+        Check.due("s r b h m m i f", one.draw(0, 8, 1, 26), 7);
+        Check.due("words", Check.words(one), "b,f,h i,m r,s");
         BlindPages y = new BlindPages();
         Check.due("ba ba b a ab bb b a", y.draw(5, 8, 2, 2), 5);
         Check.due("words", Check.words(y), "a,ab,b ba,bb");

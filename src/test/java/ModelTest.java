@@ -2,7 +2,7 @@ import java.util.Random;
 
 /** Long runs of calls by lots, each answer against that of the Model. */
 public final class ModelTest {
-    private static final int RUNS = 400;
+    private static final int RUNS = 1000;
     private static final String CHARS = "abcdefghijklmnopqrstuvwxyzABCDEFGHIJKLMNOPQRSTUVWXYZ0123456789";
 
     private BlindPages mine;

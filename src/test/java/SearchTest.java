@@ -204,6 +204,10 @@ public final class SearchTest {
         begins(x, "abcdefghij", 0, 7);
         begins(x, "ab0", 0, 3);
         begins(x, "B", 0, 1);
+        begins(x, "A", 1, 0);
+        Check.takeOut(x, "b");
+        begins(x, "b", 0, 9);
+        Check.add(x, "b");
         begins(x, "0", 0, 0);
         begins(x, "z", 0, 10);
     }

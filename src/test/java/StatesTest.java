@@ -21,10 +21,15 @@ public final class StatesTest {
         Check.due("words", Check.words(x), "a");
         Check.due("the text stays", x.told(3), 4);
         Check.add(x, "c");
-        Check.due("words", Check.words(x), "a,c");
-        Check.due("back", x.back(), 1);
-        Check.due("back", x.back(), 0);
-        Check.due("words", Check.words(x), "");
+        Check.add(x, "B");
+        Check.due("words", Check.words(x), "B,a,c");
+        Check.takeOut(x, "c");
+        Check.takeOut(x, "B");
+        String[] before = {"", "a", "a,c", "B,a,c", "B,a"};
+        for (int i = 4; i >= 0; i--) {
+            Check.due("back", x.back(), i);
+            Check.due("words", Check.words(x), before[i]);
+        }
         Check.due("back", x.back(), BlindPages.NO);
         Check.due("refused", Check.refusals(x), "0 2 0");
     }
@@ -132,6 +137,8 @@ public final class StatesTest {
         Check.due("digest of B, a", y.digest(), 3162329828189993727L);
         Check.due("digest again", y.digest(), 3162329828189993727L);
         Check.due("nothing is refused", Check.refusals(y), "0 0 0");
+        Check.takeOut(y, "B");
+        Check.due("digest of a", y.digest(), -2065547363797850722L);
     }
 
     private static long sum(BlindPages x) {
