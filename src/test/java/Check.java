@@ -2,8 +2,22 @@
 final class Check {
     private static int asked = 0;
     private static int wrong = 0;
+    /** The case at hand, told ahead of each wrong answer. */
+    private static String at = "";
 
     private Check() {
+    }
+
+    static void begin(String name) {
+        at = name + ": ";
+    }
+
+    static int asked() {
+        return asked;
+    }
+
+    static int wrong() {
+        return wrong;
     }
 
     static void due(String call, long got, long want) {
@@ -14,7 +28,7 @@ final class Check {
         asked++;
         if (!got.equals(want)) {
             wrong++;
-            System.out.println(call + " answered " + got + ", due is " + want);
+            System.out.println(at + call + " answered " + got + ", due is " + want);
         }
     }
 
