@@ -25,21 +25,24 @@ abstract class Edges {
     /** As many words as may be, on four levels. */
     static final Run MOST = NEW.signs(SIGNS_48);
 
-    /** Runs every case of the class, and ends the program with 1 if an answer was wrong. */
-    static void runs(Class<?> cases) {
-        wrongIn(cases);
+    /** Runs every case of the class, or those named, and ends the program with 1 if an answer was wrong. */
+    static void runs(Class<?> cases, String... names) {
+        wrongIn(cases, names);
         Check.end();
     }
 
-    static int wrongIn(Class<?> cases) {
+    static int wrongIn(Class<?> cases, String... names) {
+        List<String> named = List.of(names);
         List<Method> all = new ArrayList<>();
         for (Method m : cases.getDeclaredMethods()) {
-            if (m.getName().matches("(promise|terms)\\d+_.*") && Modifier.isStatic(m.getModifiers())) all.add(m);
+            boolean isCase = m.getName().matches("(promise|terms|rule)\\d+_.*|(face|readme)_.*") && Modifier.isStatic(m.getModifiers());
+            if (isCase && (named.isEmpty() || named.contains(m.getName()))) all.add(m);
         }
         all.sort(Comparator.comparing(Method::getName));
         for (Method m : all) runs(m);
         Check.begin(cases.getName());
-        Check.due("has cases", all.isEmpty() ? 0 : 1, 1);
+        if (named.isEmpty()) Check.due("has cases", all.isEmpty() ? 0 : 1, 1);
+        else Check.due("cases so named", all.size(), named.size());
         return Check.wrong();
     }
 

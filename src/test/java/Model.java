@@ -460,7 +460,7 @@ final class Model {
         return n;
     }
 
-    private static boolean before(String v, String w) {
+    static boolean before(String v, String w) {
         int d = diff(v, w);
         return d != NONE && bit(v, d) == 0;
     }

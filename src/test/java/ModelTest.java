@@ -3,6 +3,8 @@ import java.util.Random;
 /** Long runs of calls by lots, each answer against that of the Model. */
 public final class ModelTest {
     private static final int RUNS = 1000;
+    /** The 512th, the last one that is promised, is the digest. */
+    private static final int CALLS = 511;
     private static final String CHARS = "abcdefghijklmnopqrstuvwxyzABCDEFGHIJKLMNOPQRSTUVWXYZ0123456789";
 
     private BlindPages mine;
@@ -32,9 +34,10 @@ public final class ModelTest {
         lots = new Random(seed);
         letters = 1 + lots.nextInt(seed % 3 == 0 ? 3 : 62);
         longest = 1 + lots.nextInt(24);
-        while (calls < 500 && !wrong) {
+        while (calls < CALLS - 1 && !wrong) {
             turn();
         }
+        while (calls < CALLS) same("told(3)", mine.told(3), model.told(3));
         same("digest()", mine.digest(), model.digest());
     }
 
@@ -48,6 +51,7 @@ public final class ModelTest {
         }
     }
 
+    /** At most a text and a call that takes it. */
     private void turn() {
         int kind = lots.nextInt(100);
         if (kind < 18) {
@@ -113,7 +117,7 @@ public final class ModelTest {
     private void text(String s) {
         same("clear()", mine.clear(), model.clear());
         for (char c : s.toCharArray()) {
-            if (calls < 500) same("type(" + (int) c + ")", mine.type(c), model.type(c));
+            if (calls < CALLS - 1) same("type(" + (int) c + ")", mine.type(c), model.type(c));
         }
     }
 

@@ -1,7 +1,7 @@
 /** Promise 1: a new object. */
 public final class Promise01Test extends Edges {
     public static void main(String[] args) {
-        runs(Promise01Test.class);
+        runs(Promise01Test.class, args);
     }
 
     static void promise1_noWords() {

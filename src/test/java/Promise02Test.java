@@ -4,7 +4,7 @@ public final class Promise02Test extends Edges {
     private static final Run TEXT_120 = FIVE.text("a".repeat(120));
 
     public static void main(String[] args) {
-        runs(Promise02Test.class);
+        runs(Promise02Test.class, args);
     }
 
     static void promise2_theLeastByteIsTaken() {

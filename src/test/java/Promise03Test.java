@@ -1,7 +1,7 @@
 /** Promise 3: clear. */
 public final class Promise03Test extends Edges {
     public static void main(String[] args) {
-        runs(Promise03Test.class);
+        runs(Promise03Test.class, args);
     }
 
     static void promise3_anEmptyTextHad0() {

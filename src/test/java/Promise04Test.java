@@ -1,7 +1,7 @@
 /** Promise 4: add; with it how a WORD is ADDED. */
 public final class Promise04Test extends Edges {
     public static void main(String[] args) {
-        runs(Promise04Test.class);
+        runs(Promise04Test.class, args);
     }
 
     static void promise4_theFirstWordComesToANewPage() {

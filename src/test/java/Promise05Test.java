@@ -4,7 +4,7 @@ public final class Promise05Test extends Edges {
     private static final int[] HALF = {2, 2, 3, 3, 4};
 
     public static void main(String[] args) {
-        runs(Promise05Test.class);
+        runs(Promise05Test.class, args);
     }
 
     static void promise5_theOnlyWord() {

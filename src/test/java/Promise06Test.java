@@ -3,7 +3,7 @@ public final class Promise06Test extends Edges {
     private static final String FORTY = "ABCDEFGHIJKLMNOPQRSTabcdefghijklmnopqrst";
 
     public static void main(String[] args) {
-        runs(Promise06Test.class);
+        runs(Promise06Test.class, args);
     }
 
     /** By a FAULT nothing counts: no refusal, no state, nothing done. */

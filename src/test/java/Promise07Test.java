@@ -9,7 +9,7 @@ public final class Promise07Test extends Edges {
     private static final BigInteger BY = BigInteger.valueOf(2147483648L), CUT = BigInteger.valueOf(65536);
 
     public static void main(String[] args) {
-        runs(Promise07Test.class);
+        runs(Promise07Test.class, args);
     }
 
     private static String draw(int seed, int n, int signs, int letters) {

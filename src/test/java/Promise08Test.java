@@ -1,7 +1,7 @@
 /** Promise 8: deals; with it how WORDS are DEALT. */
 public final class Promise08Test extends Edges {
     public static void main(String[] args) {
-        runs(Promise08Test.class);
+        runs(Promise08Test.class, args);
     }
 
     private static void dealt(int n, int m, int pages, String shape) {

@@ -1,7 +1,7 @@
 /** Promise 9: anew. */
 public final class Promise09Test extends Edges {
     public static void main(String[] args) {
-        runs(Promise09Test.class);
+        runs(Promise09Test.class, args);
     }
 
     static void promise9_withoutWordsThereWere0() {

@@ -1,7 +1,7 @@
 /** Promise 10: finds. */
 public final class Promise10Test extends Edges {
     public static void main(String[] args) {
-        runs(Promise10Test.class);
+        runs(Promise10Test.class, args);
     }
 
     static void promise10_aheadOfAllAndBehindAll() {

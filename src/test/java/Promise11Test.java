@@ -1,7 +1,7 @@
 /** Promise 11: way. */
 public final class Promise11Test extends Edges {
     public static void main(String[] args) {
-        runs(Promise11Test.class);
+        runs(Promise11Test.class, args);
     }
 
     static void promise11_theLeastLevelAndTheGreatest() {

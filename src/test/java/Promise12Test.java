@@ -1,7 +1,7 @@
 /** Promise 12: looks. */
 public final class Promise12Test extends Edges {
     public static void main(String[] args) {
-        runs(Promise12Test.class);
+        runs(Promise12Test.class, args);
     }
 
     static void promise12_theLeastPageAndTheGreatest() {

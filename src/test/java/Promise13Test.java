@@ -1,7 +1,7 @@
 /** Promise 13: begins. */
 public final class Promise13Test extends Edges {
     public static void main(String[] args) {
-        runs(Promise13Test.class);
+        runs(Promise13Test.class, args);
     }
 
     static void promise13_itselfToo() {

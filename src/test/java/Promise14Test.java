@@ -1,7 +1,7 @@
 /** Promise 14: between. */
 public final class Promise14Test extends Edges {
     public static void main(String[] args) {
-        runs(Promise14Test.class);
+        runs(Promise14Test.class, args);
     }
 
     static void promise14_itIsTheKthWord() {

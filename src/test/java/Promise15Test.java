@@ -1,7 +1,7 @@
 /** Promise 15: sign. */
 public final class Promise15Test extends Edges {
     public static void main(String[] args) {
-        runs(Promise15Test.class);
+        runs(Promise15Test.class, args);
     }
 
     static void promise15_theFirstWordAndTheLast() {

@@ -1,7 +1,7 @@
 /** Promise 16: parts. */
 public final class Promise16Test extends Edges {
     public static void main(String[] args) {
-        runs(Promise16Test.class);
+        runs(Promise16Test.class, args);
     }
 
     static void promise16_theFirstTwoAndTheLastTwo() {

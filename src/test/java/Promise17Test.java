@@ -1,7 +1,7 @@
 /** Promise 17: page. */
 public final class Promise17Test extends Edges {
     public static void main(String[] args) {
-        runs(Promise17Test.class);
+        runs(Promise17Test.class, args);
     }
 
     /** Eight words of 24 signs on one page. */

@@ -4,7 +4,7 @@ public final class Promise18Test extends Edges {
     private static final Run CHAIN = NEW.and("deals(8)").words("a", "aa", "aaa", "aaaa", "aaaaa", "aaaaaa", "aaaaaaa", "aaaaaaaa");
 
     public static void main(String[] args) {
-        runs(Promise18Test.class);
+        runs(Promise18Test.class, args);
     }
 
     static void promise18_theLeastNumbersAreTaken() {

@@ -1,7 +1,7 @@
 /** Promise 19: all. */
 public final class Promise19Test extends Edges {
     public static void main(String[] args) {
-        runs(Promise19Test.class);
+        runs(Promise19Test.class, args);
     }
 
     static void promise19_BAD_what() {

@@ -1,7 +1,7 @@
 /** Promise 20: back; with it the STATES. */
 public final class Promise20Test extends Edges {
     public static void main(String[] args) {
-        runs(Promise20Test.class);
+        runs(Promise20Test.class, args);
     }
 
     /** So many words, each by an add of its own. */

@@ -1,7 +1,7 @@
 /** Promise 21: told. */
 public final class Promise21Test extends Edges {
     public static void main(String[] args) {
-        runs(Promise21Test.class);
+        runs(Promise21Test.class, args);
     }
 
     static void promise21_theLeastWhatAndTheGreatest() {

@@ -5,7 +5,7 @@ public final class Promise22Test extends Edges {
     private static final BigInteger ALL_LONGS = BigInteger.ONE.shiftLeft(64);
 
     public static void main(String[] args) {
-        runs(Promise22Test.class);
+        runs(Promise22Test.class, args);
     }
 
     /** h as it would be without an end. */

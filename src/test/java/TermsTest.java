@@ -1,8 +1,12 @@
 /** The terms, parts 1 and 2; those of part 3 are cases of the promises that lean on them. */
 public final class TermsTest extends Edges {
     public static void main(String[] args) {
-        runs(TermsTest.class);
+        runs(TermsTest.class, args);
     }
+
+    /** One page, two levels, three, four, five; added, dealt, taken out. */
+    private static final Run[] SHAPES = {ONE, FIVE, NEW.signs("abcdefghijklmnopq").and("deals(4)"), MOST, MOST.and("deals(5)"), MOST.takesOut("EJOTYdinsx"),
+        NEW.signs(new StringBuilder(SIGNS_48).reverse().toString()), NEW.and("draw(7, 8, 24, 3)", "draw(8, 8, 24, 3)", "draw(9, 8, 24, 26)")};
 
     private static boolean isSign(int c) {
         return c >= 'a' && c <= 'z' || c >= 'A' && c <= 'Z' || c >= '0' && c <= '9';
@@ -125,6 +129,41 @@ public final class TermsTest extends Edges {
     static void terms1_eachPageButTheTopIsAnEntryOfOnePage() {
         row(MOST, "page(#, 4)", NONE, 0, 0, 1, 1, 1, 2, 2, 3, 3, 3, 4, 4, 4, 5, 5, 5, 6, 6, 6, 7, 7, 7, 7);
         asked(ONE, "page(0, 4)", NONE);
+    }
+
+    /** Of several shapes: each level's pages one behind another, in order, those of one page together. */
+    static void terms1_pagesAreNumberedLevelByLevelEachInOrder() {
+        for (Run run : SHAPES) {
+            long pages = run.ask("all(1)");
+            for (int p = 1; p < pages; p++) {
+                long step = run.ask("page(" + (p - 1) + ", 0)") - run.ask("page(" + p + ", 0)");
+                Check.due("level of " + p, step, p == firstOfLevel(run, p) ? 1 : 0);
+                boolean inOrder = step == 1 || run.ask("page(" + (p - 1) + ", 3)") < run.ask("page(" + p + ", 3)");
+                Check.due("head of " + p + " in order", inOrder ? 1 : 0, 1);
+                Check.due("above " + p, run.ask("page(" + p + ", 4)"), pageWithEntry(run, p));
+            }
+        }
+    }
+
+    private static int firstOfLevel(Run run, int p) {
+        int first = p;
+        while (first > 0 && run.ask("page(" + (first - 1) + ", 0)") == run.ask("page(" + p + ", 0)")) first--;
+        return first;
+    }
+
+    /** The entries of the pages are pages 1, 2, .. one behind another. */
+    private static int pageWithEntry(Run run, int entry) {
+        int page = 0;
+        for (long last = run.ask("page(0, 1)"); last < entry; last += run.ask("page(" + page + ", 1)")) page++;
+        return page;
+    }
+
+    static void terms1_entriesAreInOrder() {
+        for (Run run : SHAPES) {
+            String[] words = run.words().split("[ ,]");
+            Check.due("words", words.length, run.ask("all(0)"));
+            for (int k = 1; k < words.length; k++) Check.due(words[k - 1] + " ahead of " + words[k], Model.before(words[k - 1], words[k]) ? 1 : 0, 1);
+        }
     }
 
     static void terms1_theHeadOfAPageIsThatOfItsFirstEntry() {
@@ -299,6 +338,23 @@ public final class TermsTest extends Edges {
         Check.due("h", FIVE.text("h").ask("way(0, 1)"), 8);
         Check.due("24 times h", ofLength(24).ask("way(0, 1)"), 192);
         Check.due("behind a shorter HEAD", FIVE.text("hh").ask("way(0, 1)"), 9);
+    }
+
+    /** W and the HEAD of the page's first entry are alike in so many bits at least. */
+    static void terms2_knownBitsAreAlike() {
+        for (Run run : SHAPES) {
+            String[] words = run.words().split("[ ,]");
+            for (String w : new String[] {words[0], words[words.length - 1], words[words.length / 2] + "a", "0", "zz", A24}) {
+                Run asks = run.text(w);
+                for (int l = 0; l < run.ask("all(2)"); l++) {
+                    String head = run.word((int) run.ask("page(" + asks.ask("way(" + l + ", 0)") + ", 3)"));
+                    long known = asks.ask("way(" + l + ", 1)");
+                    boolean isTop = l == run.ask("all(2)") - 1;
+                    int alike = w.equals(head) ? 8 * w.length() : Model.diff(w, head);
+                    Check.due(w + " on level " + l, known, isTop ? 0 : alike);
+                }
+            }
+        }
     }
 
     static void terms2_thereIsWithoutDiffOnLevel0() {

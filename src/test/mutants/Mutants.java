@@ -98,11 +98,11 @@ public final class Mutants {
         Map<String, byte[]> all = new HashMap<>(tests);
         all.putAll(broken);
         ClassLoader loader = new Loader(all);
-        Method wrongIn = loader.loadClass("Edges").getDeclaredMethod("wrongIn", Class.class);
+        Method wrongIn = loader.loadClass("Edges").getDeclaredMethod("wrongIn", Class.class, String[].class);
         wrongIn.setAccessible(true);
         for (String name : names) {
             try {
-                if ((int) wrongIn.invoke(null, loader.loadClass(name)) > 0) return name;
+                if ((int) wrongIn.invoke(null, loader.loadClass(name), new String[0]) > 0) return name;
             } catch (java.lang.reflect.InvocationTargetException e) {
                 return name;
             }
